@@ -915,8 +915,8 @@ public final class WordChest {
      * WORDS is chosen and all other OPEN ROWS are continued. With like prices a LEVEL is a length.
      */
     private static final class LevelMaker {
-        /** Far above the LEVELS that 8 THINGS at prices up to 3, or 24 at like prices, can need. */
-        private static final int DEEPEST = 64;
+        /** Above the LEVELS that 8 THINGS at prices up to 3 (21), or 24 at like prices (23), can need. */
+        private static final int DEEPEST = 40;
         private static final int BY_LENGTH = 12;
         private static final int PER_LEVEL = 25 * BY_LENGTH;
         private static final int MEMO = LONGEST * PER_LEVEL;
@@ -1064,7 +1064,7 @@ public final class WordChest {
 
         /** The least COST of a NODE of THINGS i to j. */
         private final long[] nodes = new long[SQUARE];
-        /** The least COST of THINGS i to j dealt to the SIGNS from s on, to one alone too. */
+        /** The least COST of THINGS i to j dealt to the SIGNS from s on (1 at least), to one alone too. */
         private final long[] deals = new long[(MOST_SIGNS + 1) * SQUARE];
         private final long[] sums = new long[MOST_THINGS + 1];
         private final int[] signPrices = new int[MOST_SIGNS];
@@ -1111,7 +1111,7 @@ public final class WordChest {
 
         private void weighDeals(int i, int j) {
             deals[(signs * MOST_THINGS + i) * MOST_THINGS + j] = ENDLESS;
-            for (int s = signs - 1; s >= 0; s--) {
+            for (int s = signs - 1; s >= 1; s--) {
                 long best = dealOf(s + 1, i, j);
                 for (int last = i; last <= j; last++) {
                     best = Math.min(best, behindSign(s, i, last) + dealOf(s + 1, last + 1, j));

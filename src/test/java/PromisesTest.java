@@ -303,6 +303,9 @@ public final class PromisesTest {
         due(7, "kept, it goes on", x.add(0, 2), 1);
         x.back(0);
         due(7, "taken back", x.add(0, 2), STATE);
+        x.own();
+        x.build(2, 0);
+        due(7, "built behind own()", x.add(0, 2), STATE);
         x.grow();
         due(7, "growing", x.add(0, 2), STATE);
     }
@@ -396,6 +399,9 @@ public final class PromisesTest {
         due(11, "a small one", x.mean(), Double.doubleToLongBits(6.0 / 1000003.0));
         tell(x, "0", "0");
         due(11, "a whole one", x.mean(), Double.doubleToLongBits(2.0));
+        x = chest(prices(9, 8), 1);
+        x.build(2, 0);
+        due(11, "of one alone", x.mean(), Double.doubleToLongBits(8.0));
     }
 
     private static void p12and13() {
@@ -608,6 +614,10 @@ public final class PromisesTest {
         due(26, "items", itemsOf(x), "2 2 1");
         due(26, "the code at hand stays", wordsOf(x), "11 10 0");
         due(27, "its counts stay", x.grown(2), 3);
+        due(22, "read by the code at hand", x.read(), 3);
+        due(23, "items", itemsOf(x), "0 2 0");
+        due(26, "heard again", x.hear(), 3);
+        due(23, "items", itemsOf(x), "2 2 1");
         x.put(1);
         due(26, "it ends within", x.hear(), -106);
         due(26, "items ahead", itemsOf(x), "2 2 1");

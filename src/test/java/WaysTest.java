@@ -200,6 +200,35 @@ public final class WaysTest {
         }
     }
 
+    /** As many THINGS as there may be, against the slow chest. */
+    private static void lookAtMany(Random random, int turn) {
+        WordChest x = new WordChest();
+        SlowChest y = new SlowChest();
+        boolean unlike = turn % 2 == 0;
+        int signs = 2 + random.nextInt(3);
+        for (int p : draw(random, signs, unlike ? 3 : 1)) {
+            x.sign(p);
+            y.sign(p);
+        }
+        int things = unlike ? 8 - random.nextInt(2) : 24 - random.nextInt(5);
+        double by = 1 + random.nextInt(5) * 0.2;
+        for (int t = 0; t < things; t++) {
+            int bits = Float.floatToRawIntBits((float) Math.pow(by, random.nextInt(16)) + random.nextInt(3));
+            x.thing(bits);
+            y.thing(bits);
+        }
+        for (int kind = 0; kind < 4; kind++) {
+            int a = kind == 1 ? 2 + random.nextInt(8) : 1;
+            long due = y.build(kind, a);
+            asked++;
+            if (x.build(kind, a) != due || y.hand != null && !wordsOf(x).equals(String.join(" ", y.hand))) {
+                wrong++;
+                System.out.println("prices " + y.prices + " counts " + y.counts + " kind " + kind + " x " + a + ": " + wordsOf(x)
+                        + ", due is " + due + " " + y.hand);
+            }
+        }
+    }
+
     public static void main(String[] args) {
         Random random = new Random(17);
         for (int turn = 0; turn < 1200; turn++) {
@@ -213,6 +242,7 @@ public final class WaysTest {
             new WaysTest(ones, draw(random, things, most), 1 + random.nextInt(4)).look();
         }
         for (int turn = 0; turn < 60; turn++) lookAtSteps(random);
+        for (int turn = 0; turn < 200; turn++) lookAtMany(random, turn);
         System.out.println(asked + " codes looked at, " + wrong + " are not as due");
         if (wrong != 0) {
             System.exit(1);
