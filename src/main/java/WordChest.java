@@ -123,8 +123,7 @@ public final class WordChest {
         } else {
             makeEnded(spare, x);
         }
-        hand.take(spare);
-        manner = MADE;
+        handOver(spare);
         return costAtHand();
     }
 
@@ -245,7 +244,7 @@ public final class WordChest {
         if (!makeCanon(spare)) {
             return NO;
         }
-        hand.take(spare);
+        handOver(spare);
         return 1;
     }
 
@@ -406,8 +405,7 @@ public final class WordChest {
         if (chest[place].number != things) {
             return STATE;
         }
-        hand.take(chest[place]);
-        manner = MADE;
+        handOver(chest[place]);
         return 1;
     }
 
@@ -537,6 +535,12 @@ public final class WordChest {
             }
         }
         return kept;
+    }
+
+    /** Whatever was at hand, the new one is neither GROWING nor begun by own(). */
+    private void handOver(Code code) {
+        hand.take(code);
+        manner = MADE;
     }
 
     private void dropCode() {

@@ -475,9 +475,34 @@ public final class PromisesTest {
         x = told(prices(1, 1, 1), "22", "2", "2222", "2", "222");
         due(16, "three signs", x.canon(), 1);
         due(16, "its words", wordsOf(x), "20 0 2110 1 210");
-        due(16, "it was begun by own()", x.add(0, 1), 3);
+        due(16, "it is not begun by own() any more", x.add(0, 1), STATE);
         x.keep(0);
         due(16, "kept", x.differs(0), NONE);
+        due(16, "canon of canon", x.canon(), 1);
+        due(16, "it is the same", x.differs(0), NONE);
+        tell(x, "2", "2", "2", "2", "2");
+        due(16, "refused", x.canon(), NO);
+        due(16, "refused, it is begun by own()", x.add(0, 1), 2);
+        canonOfGrowing();
+    }
+
+    private static void canonOfGrowing() {
+        WordChest x = alike(prices(1, 1), 3);
+        x.grow();
+        x.send(2);
+        x.keep(3);
+        due(16, "of a growing one", x.canon(), 1);
+        due(16, "its words", wordsOf(x), "10 11 0");
+        due(25, "canon() is not growing", x.send(2), STATE);
+        due(25, "UNKNOWN is ahead", x.send(3), UNKNOWN);
+        due(27, "canon() is not growing", x.grown(2), STATE);
+        due(27, "UNKNOWN is ahead", x.grown(3), UNKNOWN);
+        due(7, "canon() is not begun by own()", x.add(2, 0), STATE);
+        due(16, "the line stays", lineOf(x), "11");
+        due(26, "it is heard all the same", x.hear(), 1);
+        due(24, "it grows anew", x.grow(), 3);
+        due(27, "from its first counts on", x.grown(2), 1);
+        due(25, "it grows anew", x.send(2), 2);
     }
 
     private static void p17() {

@@ -411,6 +411,8 @@ final class SlowChest {
             ahead = row;
         }
         hand = made;
+        told = false;
+        growing = null;
         return 1;
     }
 
