@@ -1,93 +1,15 @@
 /** Each promise of the document by itself: ordinary inputs, the edges that it names, wrong inputs. */
-public final class PromisesTest {
-    private static final int UNKNOWN = -1, OUTSIDE = -2, STATE = -3, FULL = -4, NO = -5, NONE = -6, SPENT = -7;
-    private static int wrong = 0;
-    private static int asked = 0;
-
+public final class PromisesTest extends Asking {
     private static void due(int promise, String what, long got, long want) {
-        asked++;
-        if (got != want) {
-            wrong++;
-            System.out.println("promise " + promise + ": " + what + " answered " + got + ", due is " + want);
-        }
+        due("promise " + promise + ": " + what, got, want);
     }
 
     private static void due(int promise, String what, String got, String want) {
-        asked++;
-        if (!got.equals(want)) {
-            wrong++;
-            System.out.println("promise " + promise + ": " + what + " is " + got + ", due is " + want);
-        }
-    }
-
-    private static int bits(float f) {
-        return Float.floatToRawIntBits(f);
-    }
-
-    private static int[] prices(int... prices) {
-        return prices;
-    }
-
-    private static WordChest chest(int[] prices, int... counts) {
-        WordChest x = new WordChest();
-        for (int p : prices) x.sign(p);
-        for (int c : counts) x.thing(bits(c));
-        return x;
-    }
-
-    private static WordChest alike(int[] prices, int things) {
-        WordChest x = chest(prices);
-        for (int t = 0; t < things; t++) x.thing(bits(1));
-        return x;
-    }
-
-    private static void tell(WordChest x, String... words) {
-        x.own();
-        for (int t = 0; t < words.length; t++) {
-            for (char s : words[t].toCharArray()) x.add(t, s - '0');
-        }
-    }
-
-    private static WordChest told(int[] prices, String... words) {
-        WordChest x = alike(prices, words.length);
-        tell(x, words);
-        return x;
-    }
-
-    private static void line(WordChest x, String signs) {
-        x.wipe();
-        for (char s : signs.toCharArray()) x.put(s - '0');
-    }
-
-    private static String lineOf(WordChest x) {
-        StringBuilder b = new StringBuilder();
-        for (int i = 0; x.line(i) != NONE; i++) b.append(x.line(i));
-        return b.toString();
-    }
-
-    private static String wordsOf(WordChest x) {
-        StringBuilder b = new StringBuilder();
-        for (int t = 0; t < x.told(1); t++) {
-            if (t > 0) b.append(' ');
-            for (int k = 0; k < x.length(t); k++) b.append(x.word(t, k));
-        }
-        return b.toString();
-    }
-
-    private static String itemsOf(WordChest x) {
-        StringBuilder b = new StringBuilder();
-        for (int k = 0; x.item(k) != NONE; k++) b.append(k > 0 ? " " : "").append(x.item(k));
-        return b.toString();
-    }
-
-    private static String stepOf(WordChest x) {
-        StringBuilder b = new StringBuilder();
-        for (int k = 0; x.stepSign(k) != NONE; k++) b.append(x.stepSign(k));
-        return b.toString();
+        due("promise " + promise + ": " + what, got, want);
     }
 
     private static void p1() {
-        WordChest x = new WordChest();
+        CountedChest x = new CountedChest();
         for (int what = 0; what <= 6; what++) due(1, "told(" + what + ")", x.told(what), 0);
         due(1, "line(0)", x.line(0), NONE);
         due(1, "item(0)", x.item(0), NONE);
@@ -101,7 +23,7 @@ public final class PromisesTest {
     }
 
     private static void p2() {
-        WordChest x = new WordChest();
+        CountedChest x = new CountedChest();
         int[] off = {0, -1, 10, Integer.MIN_VALUE, Integer.MAX_VALUE};
         for (int p : off) due(2, "sign(" + p + ")", x.sign(p), OUTSIDE);
         due(2, "sign(1)", x.sign(1), 0);
@@ -129,7 +51,7 @@ public final class PromisesTest {
     }
 
     private static void p3() {
-        WordChest x = chest(prices(1, 1));
+        CountedChest x = chest(prices(1, 1));
         float[] off = {0f, -0f, -1f, 0.99999994f, Float.NaN, Float.POSITIVE_INFINITY, Float.NEGATIVE_INFINITY,
             1000001f, Math.nextUp(1000000f), 1e30f, Float.MIN_VALUE, -5e5f};
         for (float f : off) due(3, "thing of " + f, x.thing(bits(f)), OUTSIDE);
@@ -157,7 +79,7 @@ public final class PromisesTest {
     }
 
     private static void p4() {
-        WordChest x = chest(prices(1, 1), 5, 3);
+        CountedChest x = chest(prices(1, 1), 5, 3);
         x.build(0, 0);
         due(4, "count", x.count(0, bits(7.5f)), 5);
         due(4, "count", x.count(0, bits(2f)), 7);
@@ -175,7 +97,7 @@ public final class PromisesTest {
     }
 
     private static void p5free() {
-        WordChest x = chest(prices(1, 1), 5, 2, 1, 1, 1);
+        CountedChest x = chest(prices(1, 1), 5, 2, 1, 1, 1);
         due(5, "build(0, 0)", x.build(0, 0), 20);
         due(5, "its words", wordsOf(x), "0 10 110 1110 1111");
         due(5, "x is as told", x.build(0, -77), 20);
@@ -207,7 +129,7 @@ public final class PromisesTest {
     }
 
     private static void p5others() {
-        WordChest x = chest(prices(1, 1), 5, 2, 1, 1, 1);
+        CountedChest x = chest(prices(1, 1), 5, 2, 1, 1, 1);
         due(5, "build(1, 3)", x.build(1, 3), 20);
         due(5, "its words", wordsOf(x), "0 100 101 110 111");
         due(5, "build(1, 2)", x.build(1, 2), NO);
@@ -238,7 +160,7 @@ public final class PromisesTest {
     }
 
     private static void p5refused() {
-        WordChest x = new WordChest();
+        CountedChest x = new CountedChest();
         due(5, "the kind is ahead of STATE", x.build(4, 0), OUTSIDE);
         due(5, "no sign", x.build(3, 0), OUTSIDE);
         due(5, "no signs", x.build(0, 0), STATE);
@@ -269,7 +191,7 @@ public final class PromisesTest {
     }
 
     private static void p6() {
-        WordChest x = chest(prices(1), 1);
+        CountedChest x = chest(prices(1), 1);
         due(6, "one sign", x.own(), STATE);
         x = chest(prices(1, 1));
         due(6, "no things", x.own(), STATE);
@@ -286,7 +208,7 @@ public final class PromisesTest {
     }
 
     private static void p7() {
-        WordChest x = chest(prices(1, 1, 1), 1, 1);
+        CountedChest x = chest(prices(1, 1, 1), 1, 1);
         due(7, "no code", x.add(0, 0), STATE);
         due(7, "UNKNOWN is ahead", x.add(2, 0), UNKNOWN);
         x.build(0, 0);
@@ -311,7 +233,7 @@ public final class PromisesTest {
     }
 
     private static void p8() {
-        WordChest x = alike(prices(1, 1), 3);
+        CountedChest x = alike(prices(1, 1), 3);
         due(8, "none", x.holds(0, 0), STATE);
         due(8, "OUTSIDE is ahead", x.holds(4, 0), OUTSIDE);
         due(8, "x of 1", x.holds(1, 0), OUTSIDE);
@@ -342,14 +264,14 @@ public final class PromisesTest {
         due(8, "the prices do not matter", x.holds(1, 1), 1);
     }
 
-    private static void broke(WordChest x, int kind, int a, int first, int second) {
+    private static void broke(CountedChest x, int kind, int a, int first, int second) {
         due(9, "holds", x.holds(kind, a), 0);
         due(9, "broken(0)", x.broken(0), first);
         due(9, "broken(1)", x.broken(1), second);
     }
 
     private static void p9() {
-        WordChest x = told(prices(1, 1), "0", "10", "11", "110");
+        CountedChest x = told(prices(1, 1), "0", "10", "11", "110");
         due(9, "which", x.broken(2), OUTSIDE);
         due(9, "which", x.broken(-1), OUTSIDE);
         due(9, "none yet", x.broken(0), NONE);
@@ -375,7 +297,7 @@ public final class PromisesTest {
     }
 
     private static void p10() {
-        WordChest x = chest(prices(2, 9), 1000000, 3);
+        CountedChest x = chest(prices(2, 9), 1000000, 3);
         due(10, "none", x.cost(), STATE);
         tell(x, "111111111111111111111111", "0");
         due(10, "cost()", x.cost(), 24L * 9 * 1000000 + 6);
@@ -388,7 +310,7 @@ public final class PromisesTest {
     }
 
     private static void p11() {
-        WordChest x = chest(prices(1, 2), 1, 1, 1);
+        CountedChest x = chest(prices(1, 2), 1, 1, 1);
         due(11, "none", x.mean(), STATE);
         x.build(0, 0);
         due(11, "mean()", x.mean(), Double.doubleToLongBits(7.0 / 3.0));
@@ -405,7 +327,7 @@ public final class PromisesTest {
     }
 
     private static void p12and13() {
-        WordChest x = chest(prices(1, 1), 1, 1);
+        CountedChest x = chest(prices(1, 1), 1, 1);
         due(12, "none", x.length(0), STATE);
         due(12, "UNKNOWN is ahead", x.length(2), UNKNOWN);
         due(13, "none", x.word(0, 0), STATE);
@@ -425,7 +347,7 @@ public final class PromisesTest {
     }
 
     private static void p14() {
-        WordChest x = alike(prices(1, 1, 1), 4);
+        CountedChest x = alike(prices(1, 1, 1), 4);
         due(14, "none", x.room(), STATE);
         tell(x, "0", "10", "111", "");
         double a = 1.0 / 3, b = a / 3, c = b / 3;
@@ -435,7 +357,7 @@ public final class PromisesTest {
     }
 
     private static void p15() {
-        WordChest x = alike(prices(1, 1), 3);
+        CountedChest x = alike(prices(1, 1), 3);
         due(15, "none", x.full(), STATE);
         x.own();
         due(15, "empty words", x.full(), NO);
@@ -454,7 +376,7 @@ public final class PromisesTest {
     }
 
     private static void p16() {
-        WordChest x = alike(prices(1, 1), 4);
+        CountedChest x = alike(prices(1, 1), 4);
         due(16, "none", x.canon(), STATE);
         tell(x, "110", "0", "111", "10");
         due(16, "canon()", x.canon(), 1);
@@ -487,7 +409,7 @@ public final class PromisesTest {
     }
 
     private static void canonOfGrowing() {
-        WordChest x = alike(prices(1, 1), 3);
+        CountedChest x = alike(prices(1, 1), 3);
         x.grow();
         x.send(2);
         x.keep(3);
@@ -506,7 +428,7 @@ public final class PromisesTest {
     }
 
     private static void p17() {
-        WordChest x = chest(prices(1, 2), 8, 4, 2, 1);
+        CountedChest x = chest(prices(1, 2), 8, 4, 2, 1);
         due(17, "node(0, 1)", x.node(0, 1), 16);
         due(17, "node(2, 3)", x.node(2, 3), 4);
         due(17, "node(3, 3)", x.node(3, 3), 0);
@@ -526,7 +448,7 @@ public final class PromisesTest {
     }
 
     private static void p18() {
-        WordChest x = alike(prices(1, 1), 3);
+        CountedChest x = alike(prices(1, 1), 3);
         due(18, "none", x.write(0), STATE);
         due(18, "UNKNOWN is ahead", x.write(3), UNKNOWN);
         tell(x, "01", "", "100");
@@ -546,7 +468,7 @@ public final class PromisesTest {
     }
 
     private static void p19to21() {
-        WordChest x = new WordChest();
+        CountedChest x = new CountedChest();
         due(19, "no sign", x.put(0), UNKNOWN);
         x.sign(3);
         x.sign(4);
@@ -570,7 +492,7 @@ public final class PromisesTest {
     }
 
     private static void p22and23() {
-        WordChest x = alike(prices(1, 1), 3);
+        CountedChest x = alike(prices(1, 1), 3);
         due(22, "none", x.read(), STATE);
         x.own();
         due(22, "not free", x.read(), NO);
@@ -617,7 +539,7 @@ public final class PromisesTest {
     }
 
     private static void p24to27() {
-        WordChest x = alike(prices(1, 1), 3);
+        CountedChest x = alike(prices(1, 1), 3);
         due(25, "not growing", x.send(0), STATE);
         due(25, "UNKNOWN is ahead", x.send(3), UNKNOWN);
         due(27, "not growing", x.grown(0), STATE);
@@ -670,7 +592,7 @@ public final class PromisesTest {
     }
 
     private static void p24and26refused() {
-        WordChest x = alike(prices(1, 3), 9);
+        CountedChest x = alike(prices(1, 3), 9);
         due(24, "9 things", x.grow(), STATE);
         due(26, "9 things", x.hear(), STATE);
         x = alike(prices(1, 4), 2);
@@ -696,7 +618,7 @@ public final class PromisesTest {
     }
 
     private static void p28and29() {
-        WordChest x = alike(prices(1, 1), 3);
+        CountedChest x = alike(prices(1, 1), 3);
         due(28, "none", x.step(), STATE);
         x.own();
         due(28, "not free", x.step(), NO);
@@ -747,7 +669,7 @@ public final class PromisesTest {
     }
 
     private static void p30to32() {
-        WordChest x = alike(prices(1, 1), 3);
+        CountedChest x = alike(prices(1, 1), 3);
         due(30, "none", x.keep(0), STATE);
         due(30, "no place", x.keep(8), UNKNOWN);
         due(30, "no place", x.keep(-1), UNKNOWN);
@@ -788,7 +710,7 @@ public final class PromisesTest {
     }
 
     private static void p33to35() {
-        WordChest x = chest(prices(3, 1, 9), 2, 5, 2, 5);
+        CountedChest x = chest(prices(3, 1, 9), 2, 5, 2, 5);
         due(33, "signs", x.told(0), 3);
         due(33, "things", x.told(1), 4);
         due(33, "what", x.told(7), OUTSIDE);
@@ -863,9 +785,6 @@ public final class PromisesTest {
         p28and29();
         p30to32();
         p33to35();
-        System.out.println(asked + " answers looked at, " + wrong + " are not as due");
-        if (wrong != 0) {
-            System.exit(1);
-        }
+        end();
     }
 }
