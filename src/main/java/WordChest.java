@@ -1224,7 +1224,7 @@ public final class WordChest {
             if (takeImage(-1, 0)) {
                 return stepSize;
             }
-            for (int set = 0; set < had; set++) {
+            for (int set = 0; set < MOST_SETS && set < had; set++) {
                 for (int s = 0; s < signs; s++) {
                     if (!makeImage(set, s)) {
                         continue;

@@ -536,6 +536,12 @@ final class PromiseSentences extends Asking {
         due("5 by 3", x.mean(), Double.doubleToRawLongBits(5.0 / 3.0));
         x.count(0, bits(5));
         due("by the counts as they are", x.mean(), Double.doubleToRawLongBits(9.0 / 7.0));
+        x = chest(prices(1, 1), 8);
+        x.own();
+        for (int size = 1; size <= 24; size++) {
+            x.add(0, 1);
+            due("a whole one", x.mean(), Double.doubleToRawLongBits(size));
+        }
 
         of("Promise 11", "STATE (-3)");
         due("none", chest(prices(1, 1), 1).mean(), -3);
@@ -597,6 +603,11 @@ final class PromiseSentences extends Asking {
                 sum += shares[t];
             }
             due("of " + signs + " SIGNS", x.room(), Double.doubleToRawLongBits(sum));
+        }
+        x = told(prices(1, 1), "");
+        for (int size = 1; size <= 24; size++) {
+            x.add(0, 1);
+            due("a half as often", x.room(), Double.doubleToRawLongBits(1.0 / (1 << size)));
         }
         double third = 1.0 / 3, ninth = third / 3, least = ninth / 3 / 3 / 3 / 3 / 3;
         x = told(prices(1, 1, 1), "0000000", "00", "00", "0");
@@ -966,6 +977,7 @@ final class PromiseSentences extends Asking {
         due("hear()", x.hear(), 8);
         due("what was sent", itemsOf(x), "2 2 1 0 0 0 0 2");
         due("from its first counts on again", x.hear(), 8);
+        due("what was sent", itemsOf(x), "2 2 1 0 0 0 0 2");
         due("THE CODE AT HAND stays", wordsOf(x), words);
         due("its counts stay", x.grown(0) * 100 + x.grown(1) * 10 + x.grown(2), 524);
         due("it grows on", x.send(0) > 0 ? 1 : 0, 1);
@@ -973,6 +985,9 @@ final class PromiseSentences extends Asking {
         due("the CODE at hand is no matter", x.hear(), 9);
         due("it stays", wordsOf(x), "0 1 ");
         due("and can be told on", x.add(2, 0), 1);
+        x = line(alike(prices(1, 1), 4), "110");
+        due("the first counts are 1: one more is twice as much", x.hear(), 2);
+        due("what is heard", itemsOf(x), "3 3");
         x = alike(prices(1, 1), 2);
         for (int k = 0; k < 200; k++) x.put(k & 1);
         due("no CODE, 200 THINGS", x.hear(), 200);
@@ -1082,6 +1097,15 @@ final class PromiseSentences extends Asking {
         due("two SIGNS", x.step(), 2);
         due("all; HOME and 0; HOME and 01; HOME", x.told(5), 4);
 
+        x = told(prices(1, 1), "00", "01", "100", "101", "11");
+        due("three SIGNS", x.step(), 3);
+        due("all; HOME, 0, 10; HOME, 1; HOME, 0; 0, 10; HOME", x.told(5), 6);
+        due("looked for again", x.step(), 3);
+        due("as many sets", x.told(5), 6);
+        manySigns();
+        manyPlaces();
+        oneBehindAnother();
+
         of("Promise 28", "SPENT, when more than 2000 sets would be");
         x = told(prices(1, 1), "0000000000", "100", "1010000000", "01000000", "0100000100", "001000", "00110000", "00010000000",
             "0001000100000", "00001", "000001", "000000100000", "00000010001000", "00000001000000", "000000010100",
@@ -1097,12 +1121,52 @@ final class PromiseSentences extends Asking {
         due("2000 sets", x.told(5), 2000);
     }
 
+    private static void manySigns() {
+        String[] words = new String[16];
+        for (int t = 0; t < 16; t++) words[t] = "" + t / 4 + t % 4;
+        CountedChest x = told(prices(1, 1, 1, 1), words);
+        due("four SIGNS, two a WORD", x.step(), NONE);
+        due("all; HOME and one for each SIGN", x.told(5), 5);
+    }
+
+    /** From all PLACES but the last one SIGN 0 leads somewhere: of that one nothing may be forgotten. */
+    private static void manyPlaces() {
+        for (int size = 17; size <= 24; size++) {
+            CountedChest x = told(prices(1, 1), "0".repeat(24), "1" + "0".repeat(23), "01" + "0".repeat(size - 3) + "1");
+            due("PLACES", x.told(4), 45 + size);
+            due("no SIGN leads from all of them somewhere", x.step(), NONE);
+            due("the set of all", x.told(5), 1);
+        }
+    }
+
+    private static void oneBehindAnother() {
+        CountedChest x = told(prices(1, 1), "0", "10");
+        due("0 leads from 1 HOME", x.step(), 1);
+        tell(x, "10", "11");
+        due("0 leads from HOME nowhere now", x.step(), NONE);
+        due("one set", x.told(5), 1);
+        tell(x, "01", "10");
+        due("no SIGN leads from all somewhere", x.step(), NONE);
+        tell(x, "0", "1");
+        due("HOME alone", x.step(), 0);
+        due("one set", x.told(5), 1);
+        tell(x, "0", "10");
+        due("as it was at first", x.step(), 1);
+        due("as it was at first", stepOf(x), "0");
+        due("two sets", x.told(5), 2);
+    }
+
     private static void p29() {
         of("Promise 29", "SIGN k of the STEP that the latest step() found");
         CountedChest x = told(prices(1, 1), "1", "00", "010", "011");
         x.step();
         due("the first one", x.stepSign(0), 1);
         due("the last one", x.stepSign(1), 1);
+        x = told(prices(1, 1), "00", "01", "100", "101", "11");
+        due("three SIGNS", x.step(), 3);
+        due("in order", stepOf(x), "100");
+        x = told(prices(1, 1), "1", "00", "010", "011");
+        x.step();
         x.own();
         due("NO", x.step(), NO);
         due("that was refused: the latest one stays", stepOf(x), "11");
@@ -1143,6 +1207,14 @@ final class PromiseSentences extends Asking {
         tell(x, "", "");
         due("empty WORDS can be kept", x.keep(3), 1);
         due("so they are", x.differs(3), NONE);
+        CountedChest y = told(prices(1, 1), "01");
+        due("of one THING", y.keep(4), 1);
+        due("one is kept", y.told(6), 1);
+        due("so it is", y.differs(4), NONE);
+        y.build(0, 0);
+        due("another one", y.differs(4), 0);
+        due("it comes back", y.back(4), 1);
+        due("its WORD", wordsOf(y), "01");
 
         of("Promise 30", "UNKNOWN");
         int[] off = {-1, 8, MIN, MAX};
