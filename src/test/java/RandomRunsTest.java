@@ -10,6 +10,7 @@ public final class RandomRunsTest {
     private final SlowChest slow = new SlowChest();
     private final int seed;
     private String log = "";
+    private int made = 0;
 
     private RandomRunsTest(int seed) {
         this.seed = seed;
@@ -17,6 +18,10 @@ public final class RandomRunsTest {
     }
 
     private boolean same(String call, long got, long want) {
+        made++;
+        if (made > CountedChest.MOST_CALLS) {
+            return true; // what it answers then is free
+        }
         calls++;
         log = log + " " + call + "=" + got;
         if (got == want) {
@@ -195,7 +200,7 @@ public final class RandomRunsTest {
         if (any(20) != 0 && !begin(style)) {
             return;
         }
-        for (int turn = 0; turn < 60; turn++) {
+        for (int turn = 0; turn < 60 && made < CountedChest.MOST_CALLS; turn++) {
             if (!one(style)) {
                 return;
             }

@@ -22,14 +22,14 @@ public final class RoomTest {
         }
     }
 
-    private static WordChest begun(int things, int... prices) {
-        WordChest x = new WordChest();
+    private static CountedChest begun(int things, int... prices) {
+        CountedChest x = new CountedChest();
         for (int p : prices) x.sign(p);
         for (int t = 0; t < things; t++) x.thing(Float.floatToRawIntBits(1 + t % 7));
         return x;
     }
 
-    private static void all(WordChest x, int turns) {
+    private static void all(CountedChest x, int turns) {
         for (int turn = 0; turn < turns; turn++) {
             for (int kind = 0; kind < 4; kind++) {
                 x.build(kind, 1);
@@ -57,7 +57,7 @@ public final class RoomTest {
 
     private static void look(int things, int... prices) {
         long before = made();
-        WordChest x = begun(things, prices);
+        CountedChest x = begun(things, prices);
         long begun = made();
         all(x, 1);
         long once = made();

@@ -9,7 +9,7 @@ import java.util.TreeSet;
  * FREE and BOUNDED codes against all ways there are, one by one, with any ROWS left and any
  * continued; their COST against the least of all FREE CODES; and STEPS of codes with many PLACES.
  */
-public final class WaysTest {
+public final class WaysTest extends Asking {
     private static int wrong = 0;
     private static int asked = 0;
 
@@ -107,7 +107,7 @@ public final class WaysTest {
     }
 
     private void look() {
-        WordChest x = new WordChest();
+        CountedChest x = new CountedChest();
         for (int p : prices) x.sign(p);
         for (int c : counts) x.thing(Float.floatToRawIntBits(c));
         long got = bound < 25 ? x.build(1, bound) : x.build(0, 0);
@@ -138,15 +138,6 @@ public final class WaysTest {
         return least;
     }
 
-    private static String wordsOf(WordChest x) {
-        StringBuilder b = new StringBuilder();
-        for (int t = 0; t < x.told(1); t++) {
-            if (t > 0) b.append(' ');
-            for (int k = 0; k < x.length(t); k++) b.append(x.word(t, k));
-        }
-        return b.toString();
-    }
-
     private static int[] draw(Random random, int size, int most) {
         int[] drawn = new int[size];
         for (int i = 0; i < size; i++) drawn[i] = 1 + random.nextInt(most);
@@ -171,7 +162,7 @@ public final class WaysTest {
     }
 
     private static void lookAtSteps(Random random) {
-        WordChest x = new WordChest();
+        CountedChest x = new CountedChest();
         SlowChest y = new SlowChest();
         for (int s = 0; s < 2; s++) {
             x.sign(1);
@@ -202,28 +193,24 @@ public final class WaysTest {
 
     /** As many THINGS as there may be, against the slow chest. */
     private static void lookAtMany(Random random, int turn) {
-        WordChest x = new WordChest();
-        SlowChest y = new SlowChest();
         boolean unlike = turn % 2 == 0;
-        int signs = 2 + random.nextInt(3);
-        for (int p : draw(random, signs, unlike ? 3 : 1)) {
-            x.sign(p);
-            y.sign(p);
-        }
-        int things = unlike ? 8 - random.nextInt(2) : 24 - random.nextInt(5);
+        int[] prices = draw(random, 2 + random.nextInt(3), unlike ? 3 : 1);
+        int[] counts = new int[unlike ? 8 - random.nextInt(2) : 24 - random.nextInt(5)];
         double by = 1 + random.nextInt(5) * 0.2;
-        for (int t = 0; t < things; t++) {
-            int bits = Float.floatToRawIntBits((float) Math.pow(by, random.nextInt(16)) + random.nextInt(3));
-            x.thing(bits);
-            y.thing(bits);
-        }
+        for (int t = 0; t < counts.length; t++) counts[t] = (int) Math.pow(by, random.nextInt(16)) + random.nextInt(3);
         for (int kind = 0; kind < 4; kind++) {
+            CountedChest x = chest(prices, counts);
+            SlowChest y = new SlowChest();
+            for (int p : prices) y.sign(p);
+            for (int c : counts) y.thing(bits(c));
             int a = kind == 1 ? 2 + random.nextInt(8) : 1;
             long due = y.build(kind, a);
+            long got = x.build(kind, a);
+            String words = due < 0 ? "" : wordsOf(x);
             asked++;
-            if (x.build(kind, a) != due || y.hand != null && !wordsOf(x).equals(String.join(" ", y.hand))) {
+            if (got != due || due >= 0 && !words.equals(String.join(" ", y.hand))) {
                 wrong++;
-                System.out.println("prices " + y.prices + " counts " + y.counts + " kind " + kind + " x " + a + ": " + wordsOf(x)
+                System.out.println("prices " + y.prices + " counts " + y.counts + " kind " + kind + " x " + a + ": " + got + " " + words
                         + ", due is " + due + " " + y.hand);
             }
         }
